@@ -88,10 +88,12 @@ public final class ListTest {
     private static void bestMoves() {
         Due.is("one request", asked(4, 3).serve(3), 4);
         Due.is("a move ahead is free", asked(4, 3, 3, 3).serve(3), 6);
-        // 3 goes right behind 2 for nothing, or stays: 3 3, then 2 1 1 ..
+        // 2 goes ahead to the second place, and 0 stays in front
         Due.is("ahead, but not to the front", asked(3, 2, 0, 2, 0, 2, 0).serve(3), 3 + 1 + 2 + 1 + 2 + 1);
-        // 0 back behind both for 2, then 1 2 1 2 1 2 1 2 costs 12 and not 5 4 2 1 ..
-        Due.is("exchanges are told ahead", asked(3, 1, 2, 1, 2, 1, 2, 1, 2).serve(3), 14);
+        // 0 goes behind both for 2, then 1 and 2 cost 1 and 2 in turn
+        Due.is("exchanges are told ahead", asked(3, 1, 2, 1, 2, 1, 2, 1, 2).serve(3), 2 + 4 * (1 + 2));
+        // 2 stays behind 1 although it could go to the front for nothing
+        Due.is("exchanges only where they pay", asked(3, 2, 1).serve(3), 3 + 2);
         Due.is("one thing", asked(1, 0, 0, 0).serve(3), 3);
     }
 

@@ -70,6 +70,10 @@ public final class LotsTest {
         x.share(0, 7, 1);
         // greatest by 7: 16 / 7 = 2.28571..
         Due.is("rounded up", x.bound(0), 2286);
+        x.ends(40);
+        x.share(0, 41, 2);
+        Due.is("the last end is the greatest", x.bound(0), 4000);
+        Due.is("never has its share in the mean", x.mean(40, 0), 4);
     }
 
     private static void lowerBound() {
@@ -88,7 +92,7 @@ public final class LotsTest {
         for (int end = 1; end <= 4; end++) {
             x.share(1, end, 1);
         }
-        // plan 5 (never): (1 + 1 + 1 + 1.333333) / 4 = 1.08333325
+        // plan 5 and later ones: (1 + 1 + 1 + 1.333333) / 4 = 1.08333325
         Due.is("rounded down", x.bound(1), 1083);
         x.offer(0, 2, 0, 0, 3);
         x.ends(2);
@@ -102,60 +106,19 @@ public final class LotsTest {
         millionths();
     }
 
-    /** 3 * (4/3) is 4, but of ratios that are rounded down to millionths ahead it is 3.999999. */
     private static void millionths() {
         RentOrBuy x = new RentOrBuy();
-        // rent 1 and 3 and 5 .., price 3: known 1 3 3 3
-        x.offer(1, 1, 2, 0, 3);
+        x.offer(0, 2, 0, 0, 3);
         x.ends(2);
-        x.share(1, 1, 1);
-        x.share(1, 2, 1);
-        // plan 1 (3 + 1) / 2; plan 2 (1 + 1.333333) / 2; plan 3 (1 + 1.333333) / 2
-        Due.is("two thirds", x.bound(1), 1166);
-        x.offer(0, 4, 0, 0, 3);
-        x.ends(1);
-        x.share(1, 1, 9);
-        Due.is("day 1 is least", x.bound(1), 1000);
-        // the sum of exact ratios would be whole: rent 3, price 5, E 3, ends 1 2 3 with shares 1 2 4
-        boolean differs = false;
-        x.ends(3);
-        for (int price = 1; price <= 60 && !differs; price++) {
-            for (int rent = 1; rent <= 10 && !differs; rent++) {
-                for (int shares = 1; shares < 1000 && !differs; shares++) {
-                    differs = differsFromExact(x, price, rent, shares);
-                }
-            }
-        }
-        Due.holds("an offer was found where rounding ahead shows", differs);
-    }
-
-    private static boolean differsFromExact(RentOrBuy x, int price, int rent, int shares) {
-        int[] s = {shares / 100, shares / 10 % 10, shares % 10};
-        double best = Double.MAX_VALUE;
-        long bestMillionths = Long.MAX_VALUE;
-        for (int plan = 1; plan <= 4; plan++) {
-            double exact = 0;
-            long millionths = 0;
-            for (int end = 1; end <= 3; end++) {
-                int known = Math.min(price, rent * end);
-                int cost = plan <= end ? rent * (plan - 1) + price : rent * end;
-                exact += s[end - 1] * (double) cost / known;
-                millionths += s[end - 1] * (cost * 1000000L / known);
-            }
-            best = Math.min(best, exact);
-            bestMillionths = Math.min(bestMillionths, millionths);
-        }
-        int total = s[0] + s[1] + s[2];
-        long due = bestMillionths / (1000L * total);
-        if (due == (long) Math.floor(best * 1000 / total + 1e-9)) {
-            return false;
-        }
-        x.offer(0, rent, 0, 0, price);
-        for (int end = 1; end <= 3; end++) {
-            x.share(1, end, s[end - 1]);
-        }
-        Due.is("ratios are rounded ahead", x.bound(1), due);
-        return true;
+        x.share(1, 1, 2);
+        x.share(1, 2, 3);
+        // plan 3: (2 + 3 * 4/3) / 5 is 1.2, but 4/3 is rounded down to 1.333333 ahead
+        Due.is("ratios are rounded ahead", x.bound(1), 1199);
+        x.offer(0, 3, 0, 0, 4);
+        x.share(1, 1, 3);
+        x.share(1, 2, 2);
+        // plan 1: (3 * 4/3 + 2) / 5
+        Due.is("ratios are rounded ahead", x.bound(1), 1199);
     }
 
     private static void guesses() {
@@ -164,7 +127,7 @@ public final class LotsTest {
         Due.is("the price is as the rents", x.guess(10, 7), 14);
         Due.is("the price is less", x.guess(11, 7), 7);
         Due.is("E + 1 at most", x.guess(1, 4), 21);
-        Due.is("just E + 1 is cut", x.guess(10, 5), 20);
+        Due.is("E is not cut", x.guess(10, 5), 20);
         int[][] bad = {{0, 1}, {21, 1}, {1, 0}, {1, 10}, {-1, 5}, {5, -1}};
         for (int[] b : bad) {
             Due.is("bad guess", x.guess(b[0], b[1]), RentOrBuy.BAD);
@@ -177,6 +140,8 @@ public final class LotsTest {
         Due.is("rounded up", x.guess(8, 1), 1);
         Due.is("rounded down", x.guess(7, 8), 8);
         Due.is("rounded down", x.guess(7, 3), 23);
+        Due.is("the least trust", x.guess(7, 1), 41);
+        Due.is("the greatest trust", x.guess(8, 9), 7);
     }
 
     private static void trusts() {
@@ -192,6 +157,11 @@ public final class LotsTest {
         Due.is("right, lower", x.trust(5, 5, 0, 1), 1);
         Due.is("wrong, upper", x.trust(5, 5, 1, 0), 29);
         Due.is("wrong, lower", x.trust(5, 5, 1, 1), 10);
+        // plan 21, never: worst by 20; plan 9: worst by 9: 18 / 9
+        Due.is("the least trust", x.trust(20, 1, 0, 0), 1);
+        Due.is("the least trust", x.trust(5, 1, 1, 0), 2);
+        Due.is("the greatest trust", x.trust(20, 9, 1, 0), 2);
+        Due.is("the greatest trust", x.trust(20, 9, 0, 1), 5);
         Due.is("bad what", x.trust(5, 5, 2, 0), RentOrBuy.BAD);
         Due.is("bad what", x.trust(5, 5, -1, 0), RentOrBuy.BAD);
         Due.is("bad part", x.trust(5, 5, 0, 2), RentOrBuy.BAD);

@@ -117,10 +117,18 @@ public final class OfferTest {
         Due.is("buys ahead of the end", x.cost(4, 20), 55);
         Due.is("the end is ahead", x.cost(4, 3), 15);
         Due.is("never", x.cost(21, 20), 40 + 3 * 190);
+        Due.is("the last day of a new object", costOfNever(new RentOrBuy()), 40);
+        Due.is("the last day of an offer", costOfNever(x), 80 + 3 * 780);
+        x.ends(20);
         int[][] bad = {{0, 1}, {22, 1}, {-1, 1}, {1, 0}, {1, 21}, {1, -1}};
         for (int[] b : bad) {
             Due.is("bad cost", x.cost(b[0], b[1]), RentOrBuy.BAD);
         }
+    }
+
+    private static int costOfNever(RentOrBuy x) {
+        x.ends(40);
+        return x.cost(41, 40);
     }
 
     private static void known() {

@@ -1,5 +1,7 @@
 import java.math.BigInteger;
 import java.util.ArrayList;
+import java.util.Arrays;
+import java.util.Collections;
 import java.util.HashMap;
 import java.util.List;
 import java.util.Map;
@@ -75,8 +77,8 @@ final class Reference {
         if (e < 1 || e > 40) return BAD;
         int before = lastEnd;
         lastEnd = e;
-        java.util.Arrays.fill(planShares, 0);
-        java.util.Arrays.fill(endShares, 0);
+        Arrays.fill(planShares, 0);
+        Arrays.fill(endShares, 0);
         return before;
     }
 
@@ -149,14 +151,9 @@ final class Reference {
 
     int sure() {
         Fraction[][] table = table();
-        for (int plan = 1; plan <= lastEnd + 1; plan++) {
-            boolean least = true;
-            for (int other = 1; other <= lastEnd + 1; other++) {
-                least &= worst(table[plan]).compareTo(worst(table[other])) <= 0;
-            }
-            if (least) return plan;
-        }
-        throw new IllegalStateException("no plan is least");
+        List<Fraction> worsts = new ArrayList<>();
+        for (int plan = 1; plan <= lastEnd + 1; plan++) worsts.add(worst(table[plan]));
+        return worsts.indexOf(Collections.min(worsts)) + 1;
     }
 
     int share(int of, int which, int v) {
@@ -174,16 +171,15 @@ final class Reference {
         return sum;
     }
 
-    private Fraction meanBy(int end) {
+    private Fraction meanBy(Fraction[][] table, int end) {
         Fraction sum = Fraction.of(0, 1);
-        Fraction[][] table = table();
         for (int plan = 1; plan <= lastEnd + 1; plan++) sum = sum.plus(table[plan][end].times(planShares[plan], 1));
         return sum.times(1, sum(planShares));
     }
 
     long mean(int end, int part) {
         if (noEnd(end) || part < 0 || part > 1) return BAD;
-        return sum(planShares) == 0 ? STATE : meanBy(end).part(part);
+        return sum(planShares) == 0 ? STATE : meanBy(table(), end).part(part);
     }
 
     long bound(int what) {
@@ -193,9 +189,10 @@ final class Reference {
     }
 
     private long upperBound() {
+        Fraction[][] table = table();
         Fraction most = Fraction.of(0, 1);
         for (int end = 1; end <= lastEnd; end++) {
-            Fraction mean = meanBy(end);
+            Fraction mean = meanBy(table, end);
             if (mean.compareTo(most) > 0) most = mean;
         }
         return most.times(1000, 1).ceiling();

@@ -1,6 +1,12 @@
+import java.lang.reflect.InvocationTargetException;
+import java.lang.reflect.Method;
+import java.lang.reflect.Modifier;
+import java.util.function.IntToLongFunction;
+
 /** Counts the calls whose answer is not the one that is due. */
 final class Due {
     private static int wrong = 0;
+    private static String test = "";
 
     private Due() {
     }
@@ -8,15 +14,41 @@ final class Due {
     static void is(String call, long got, long want) {
         if (got != want) {
             wrong++;
-            System.out.println(call + " answered " + got + ", due is " + want);
+            System.out.println(test + call + " answered " + got + ", due is " + want);
         }
     }
 
     static void holds(String what, boolean truth) {
         if (!truth) {
             wrong++;
-            System.out.println("does not hold: " + what);
+            System.out.println(test + "does not hold: " + what);
         }
+    }
+
+    /** Both sides of both limits of one number: low and high are taken, all beyond them is BAD. */
+    static void limits(String what, int low, int high, IntToLongFunction call) {
+        is(what + " just too small", call.applyAsLong(low - 1), RentOrBuy.BAD);
+        is(what + " just too large", call.applyAsLong(high + 1), RentOrBuy.BAD);
+        is(what + " as small as can be", call.applyAsLong(Integer.MIN_VALUE), RentOrBuy.BAD);
+        is(what + " as large as can be", call.applyAsLong(Integer.MAX_VALUE), RentOrBuy.BAD);
+        holds(what + ": the least is taken", call.applyAsLong(low) >= 0);
+        holds(what + ": the greatest is taken", call.applyAsLong(high) >= 0);
+    }
+
+    /** Runs each method of the class that is named as a test of a promise, so that none is forgotten. */
+    static void runPromises(Class<?> tests) throws IllegalAccessException, InvocationTargetException {
+        int ran = 0;
+        for (Method method : tests.getDeclaredMethods()) {
+            if (method.getName().startsWith("promise") && Modifier.isStatic(method.getModifiers())) {
+                test = method.getName() + ": ";
+                method.setAccessible(true);
+                method.invoke(null);
+                ran++;
+            }
+        }
+        test = "";
+        holds("there are tests in " + tests, ran > 0);
+        finish();
     }
 
     /** Ends the program with exit code 1 if an answer was wrong. */

@@ -480,6 +480,13 @@ public final class OfferEdgesTest {
         dueRatio(withEnds(40), 1, 0, 10, 1);
     }
 
+    private static void promise7WorstByTheEndOnWhichItBuys() {
+        RentOrBuy x = withEnds(40);
+        dueRatio(x, 2, 0, 11, 2);
+        dueRatio(x, 3, 0, 4, 1);
+        dueRatio(x, 10, 0, 19, 10);
+    }
+
     private static void promise7WorstByTheLastEnd() {
         RentOrBuy x = withEnds(40);
         dueRatio(x, 41, 0, 4, 1);
@@ -510,6 +517,7 @@ public final class OfferEdgesTest {
     private static void promise8GreatestE() {
         Due.is("buys", withEnds(40).sure(), 10);
         Due.is("buys at once", withOffer(40, FLAT, 1, 0, 0, 1).sure(), 1);
+        Due.is("buys on day 2", withOffer(40, FLAT, 1, 0, 0, 2).sure(), 2);
         Due.is("never", withOffer(40, FLAT, 1, 0, 0, 500).sure(), 41);
         Due.is("never, and the rents come to the price", withOffer(40, FLAT, 1, 0, 0, 40).sure(), 41);
     }

@@ -93,7 +93,7 @@ public final class RefusalTest {
         }
     }
 
-    /** What an object answers to some 300 calls that show all of its state; it is spent behind them. */
+    /** What an object answers to calls that show all of its state (some 260 at most); it is spent behind them. */
     private static long[] allAnswers(RentOrBuy x) {
         List<Long> answers = new ArrayList<>();
         int e = x.count(0);

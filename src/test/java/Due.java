@@ -5,10 +5,30 @@ import java.util.function.IntToLongFunction;
 
 /** Counts the calls whose answer is not the one that is due. */
 final class Due {
+    private static final int MOST_SECONDS = 300;
     private static int wrong = 0;
     private static String test = "";
 
+    static {
+        watch();
+    }
+
     private Due() {
+    }
+
+    /** A call that does not end is as wrong as a wrong answer. */
+    private static void watch() {
+        Thread watching = new Thread(() -> {
+            try {
+                Thread.sleep(MOST_SECONDS * 1000L);
+            } catch (InterruptedException e) {
+                return;
+            }
+            System.out.println(test + "did not end");
+            Runtime.getRuntime().halt(1);
+        });
+        watching.setDaemon(true);
+        watching.start();
     }
 
     static void is(String call, long got, long want) {
@@ -35,20 +55,34 @@ final class Due {
         holds(what + ": the greatest is taken", call.applyAsLong(high) >= 0);
     }
 
-    /** Runs each method of the class that is named as a test of a promise, so that none is forgotten. */
-    static void runPromises(Class<?> tests) throws IllegalAccessException, InvocationTargetException {
+    static void runPromises(Class<?> tests) throws IllegalAccessException {
+        runNamed(tests, "promise");
+        finish();
+    }
+
+    /** Runs each method of the class whose name begins as that of a test, so that none is forgotten. */
+    static void runNamed(Class<?> tests, String beginning) throws IllegalAccessException {
         int ran = 0;
         for (Method method : tests.getDeclaredMethods()) {
-            if (method.getName().startsWith("promise") && Modifier.isStatic(method.getModifiers())) {
+            if (method.getName().startsWith(beginning) && Modifier.isStatic(method.getModifiers())) {
                 test = method.getName() + ": ";
                 method.setAccessible(true);
-                method.invoke(null);
+                runOne(method);
                 ran++;
             }
         }
         test = "";
         holds("there are tests in " + tests, ran > 0);
-        finish();
+    }
+
+    /** What a call throws fails its own test, and the others still run. */
+    private static void runOne(Method method) throws IllegalAccessException {
+        try {
+            method.invoke(null);
+        } catch (InvocationTargetException e) {
+            holds("no call throws", false);
+            e.getCause().printStackTrace(System.out);
+        }
     }
 
     /** Ends the program with exit code 1 if an answer was wrong. */

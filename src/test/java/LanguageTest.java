@@ -19,8 +19,12 @@ public final class LanguageTest {
             "int offer(int,int,int,int,int)", "int ratio(int,int,int)", "int rent(int)", "int request(int)",
             "int serve(int)", "int share(int,int,int)", "int sure()", "int trust(int,int,int,int)",
             "long mean(int,int)", "long trace()");
-    private static final String OUTSIDE = "\\b(throw|throws|try|catch|finally|synchronized|assert|import|package"
-            + "|volatile|native|record|var|equals|hashCode|toString|System|Object|\\w*Exact|\\w*Exception)\\b|->|::|@";
+    /** Rules 1, 2, 4, 5, 6, 13: what may not stand anywhere in the text. */
+    private static final String OUTSIDE = "\\b(throw|throws|try|catch|finally|synchronized|assert|package|hashCode"
+            + "|random|Random|Thread|\\w*Exact|\\w*Exception)\\b|::|static\\s*\\{|System\\.(?!arraycopy\\b)";
+    private static final Pattern LAMBDA = Pattern.compile("(?m)^(?!\\s*(case\\b.*|default\\s*)->).*->.*$");
+    private static final Pattern IMPORT = Pattern.compile("import\\s+(?!java\\.util\\.(ArrayList|List|Arrays|Iterator);)[^;]*;");
+    private static final int MOST_LINES = 66;
 
     private LanguageTest() {
     }
@@ -76,15 +80,39 @@ public final class LanguageTest {
         for (Method m : c.getDeclaredMethods()) {
             Due.holds(m + " has at most seven parameters", m.getParameterCount() <= 7);
             Due.holds(m + " bears no public name",
-                    c == RentOrBuy.class && Modifier.isPublic(m.getModifiers()) || !publicNames.contains(m.getName()));
+                    !Modifier.isPrivate(m.getModifiers()) || !publicNames.contains(m.getName()));
         }
     }
 
     private static void text() throws IOException {
         String text = Files.readString(SOURCE).replaceAll("(?s)/\\*.*?\\*/", "").replaceAll("//[^\n]*", "");
-        Matcher m = Pattern.compile(OUTSIDE).matcher(text);
-        while (m.find()) {
-            Due.holds("no " + m.group() + " in the program", false);
+        for (Pattern outside : new Pattern[] {Pattern.compile(OUTSIDE), LAMBDA, IMPORT}) {
+            Matcher m = outside.matcher(text);
+            while (m.find()) {
+                Due.holds("no " + m.group() + " in the program", false);
+            }
         }
+        lengths(text.split("\n"));
+    }
+
+    /** Methods stand at depth 1 in the class itself, at depth 2 in the classes inside. */
+    private static void lengths(String[] lines) {
+        int depth = 0;
+        int[] begun = new int[3];
+        for (int i = 0; i < lines.length; i++) {
+            String line = lines[i];
+            for (char c : line.toCharArray()) {
+                if (c == '{') {
+                    if (depth < begun.length) begun[depth] = i;
+                    depth++;
+                } else if (c == '}') {
+                    depth--;
+                    if (depth < 1 || depth >= begun.length) continue;
+                    String head = lines[begun[depth]];
+                    Due.holds("short: " + head.strip(), !head.contains("(") || i - begun[depth] < MOST_LINES);
+                }
+            }
+        }
+        Due.is("the depth at the end of the text", depth, 0);
     }
 }

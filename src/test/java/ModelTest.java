@@ -5,6 +5,7 @@ public final class ModelTest {
     private final RentOrBuy x = new RentOrBuy();
     private final Reference r = new Reference();
     private long state;
+    private int calls = 0;
 
     private ModelTest(long seed) {
         state = seed;
@@ -13,7 +14,7 @@ public final class ModelTest {
     public static void main(String[] args) {
         for (int run = 0; run < RUNS; run++) {
             ModelTest test = new ModelTest(run * 7919L + 1);
-            for (int call = 0; call < CALLS; call++) {
+            while (test.calls < CALLS) {
                 test.step(run % 4);
             }
         }
@@ -42,12 +43,18 @@ public final class ModelTest {
         }
     }
 
+    /** Asked of the reference: the calls of the object are counted. */
     private int end() {
-        return number(1, x.count(0));
+        return number(1, r.count(0));
     }
 
     private int plan() {
-        return number(1, x.count(0) + 1);
+        return number(1, r.count(0) + 1);
+    }
+
+    private void due(String call, long got, long want) {
+        calls++;
+        Due.is(call, got, want);
     }
 
     private void step(int flavour) {
@@ -71,15 +78,15 @@ public final class ModelTest {
         int part = number(0, 1);
         switch (call) {
             case 0: offerCall(a); break;
-            case 1: if (next(3) == 0) { int e = number(1, 40); Due.is("ends(" + e + ")", x.ends(e), r.ends(e)); } break;
-            case 2: int d = number(1, 40); Due.is("rent(" + d + ")", x.rent(d), r.rent(d)); break;
-            case 3: Due.is("cost(" + plan + ", " + end + ")", x.cost(plan, end), r.cost(plan, end)); break;
-            case 4: Due.is("known(" + end + ")", x.known(end), r.known(end)); break;
+            case 1: if (next(3) == 0) { int e = number(1, 40); due("ends(" + e + ")", x.ends(e), r.ends(e)); } break;
+            case 2: int d = number(1, 40); due("rent(" + d + ")", x.rent(d), r.rent(d)); break;
+            case 3: due("cost(" + plan + ", " + end + ")", x.cost(plan, end), r.cost(plan, end)); break;
+            case 4: due("known(" + end + ")", x.known(end), r.known(end)); break;
             case 5:
                 int by = next(2) == 0 ? 0 : end;
-                Due.is("ratio(" + plan + ", " + by + ", " + part + ")", x.ratio(plan, by, part), r.ratio(plan, by, part));
+                due("ratio(" + plan + ", " + by + ", " + part + ")", x.ratio(plan, by, part), r.ratio(plan, by, part));
                 break;
-            default: Due.is("sure()", x.sure(), r.sure());
+            default: due("sure()", x.sure(), r.sure());
         }
     }
 
@@ -89,7 +96,7 @@ public final class ModelTest {
         int cap = number(1, 200);
         int price = next(2) == 0 ? number(1, 500) : number(1, 60);
         String text = "offer(" + kind + ", " + rent + ", " + rise + ", " + cap + ", " + price + ")";
-        Due.is(text, x.offer(kind, rent, rise, cap, price), r.offer(kind, rent, rise, cap, price));
+        due(text, x.offer(kind, rent, rise, cap, price), r.offer(kind, rent, rise, cap, price));
     }
 
     private void lotsStep(int call) {
@@ -99,37 +106,37 @@ public final class ModelTest {
         int what = number(0, 1);
         switch (call) {
             case 7:
-                for (int i = 0; i < 3; i++) {
+                for (int i = 0; i < 3 && calls < CALLS; i++) {
                     int of = number(0, 1);
                     int which = of == 0 ? plan() : end();
                     int v = number(0, 9);
-                    Due.is("share(" + of + ", " + which + ", " + v + ")", x.share(of, which, v), r.share(of, which, v));
+                    due("share(" + of + ", " + which + ", " + v + ")", x.share(of, which, v), r.share(of, which, v));
                 }
                 break;
-            case 8: Due.is("mean(" + end + ", " + part + ")", x.mean(end, part), r.mean(end, part)); break;
-            case 9: Due.is("bound(" + what + ")", x.bound(what), r.bound(what)); break;
-            case 10: Due.is("guess(" + end + ", " + t + ")", x.guess(end, t), r.guess(end, t)); break;
+            case 8: due("mean(" + end + ", " + part + ")", x.mean(end, part), r.mean(end, part)); break;
+            case 9: due("bound(" + what + ")", x.bound(what), r.bound(what)); break;
+            case 10: due("guess(" + end + ", " + t + ")", x.guess(end, t), r.guess(end, t)); break;
             default:
                 String text = "trust(" + end + ", " + t + ", " + what + ", " + part + ")";
-                Due.is(text, x.trust(end, t, what, part), r.trust(end, t, what, part));
+                due(text, x.trust(end, t, what, part), r.trust(end, t, what, part));
         }
     }
 
     private void listStep(int call) {
         int what = number(0, 3);
         switch (call) {
-            case 12: if (next(6) == 0) { int n = number(1, 4); Due.is("list(" + n + ")", x.list(n), r.list(n)); } break;
+            case 12: if (next(6) == 0) { int n = number(1, 4); due("list(" + n + ")", x.list(n), r.list(n)); } break;
             case 13:
-                for (int i = 0; i < 3; i++) {
-                    int thing = number(0, x.count(2) - 1);
-                    Due.is("request(" + thing + ")", x.request(thing), r.request(thing));
+                for (int i = 0; i < 3 && calls < CALLS; i++) {
+                    int thing = number(0, r.count(2) - 1);
+                    due("request(" + thing + ")", x.request(thing), r.request(thing));
                 }
                 break;
-            case 14: Due.is("drop()", x.drop(), r.drop()); break;
-            case 15: Due.is("serve(" + what + ")", x.serve(what), r.serve(what)); break;
-            case 16: int i = number(1, x.count(2)); Due.is("at(" + i + ")", x.at(i), r.at(i)); break;
-            case 17: Due.is("count(" + what + ")", x.count(what), r.count(what)); break;
-            default: Due.is("trace()", x.trace(), r.trace());
+            case 14: due("drop()", x.drop(), r.drop()); break;
+            case 15: due("serve(" + what + ")", x.serve(what), r.serve(what)); break;
+            case 16: int i = number(1, r.count(2)); due("at(" + i + ")", x.at(i), r.at(i)); break;
+            case 17: due("count(" + what + ")", x.count(what), r.count(what)); break;
+            default: due("trace()", x.trace(), r.trace());
         }
     }
 
